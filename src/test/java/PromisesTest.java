@@ -1,4 +1,4 @@
-/** Promise by promise: ordinary inputs, the edges that the document names, and wrong inputs. */
+/** Promise by promise: ordinary inputs; the boundaries have tests of their own. */
 public final class PromisesTest {
     private static final int BAD_ARG = -1;
     private static final int FULL = -2;
@@ -6,8 +6,6 @@ public final class PromisesTest {
 
     private static final String LONGEST = "0102103210";
     private static final String FULL_WORD = "012301230123012301230123";
-    private static final int[] NO_SLOTS = {-1, 3, 4, 24, 72, 120, -3, 1 << 30,
-            Integer.MIN_VALUE, Integer.MAX_VALUE};
 
     public static void main(String[] args) {
         constants();
@@ -29,7 +27,6 @@ public final class PromisesTest {
         between();
         order();
         alike();
-        wrongSlots();
         objectsAreApart();
         Check.end();
     }
@@ -324,46 +321,6 @@ public final class PromisesTest {
         CoxeterWords x = Slots.of("", one, two);
         Check.due("alike " + one + " " + two, x.alike(1, 2), want);
         Check.due("alike " + two + " " + one, x.alike(2, 1), want);
-    }
-
-    private static void wrongSlots() {
-        for (int s : NO_SLOTS) {
-            oneWrongSlot(s);
-            for (int r = 0; r < 3; r++) {
-                twoSlotsOneWrong(s, r);
-                twoSlotsOneWrong(r, s);
-            }
-            twoSlotsOneWrong(s, s);
-        }
-    }
-
-    private static void oneWrongSlot(int s) {
-        CoxeterWords x = Slots.of("0121", FULL_WORD, "");
-        Check.due("push " + s, x.push(s, 0), BAD_ARG);
-        Check.due("push both wrong " + s, x.push(s, 4), BAD_ARG);
-        Check.due("pop " + s, x.pop(s), BAD_ARG);
-        Check.due("clear " + s, x.clear(s), BAD_ARG);
-        Check.due("shorten " + s, x.shorten(s), BAD_ARG);
-        Check.due("turn " + s, x.turn(s), BAD_ARG);
-        Check.due("size " + s, x.size(s), BAD_ARG);
-        Check.due("letter " + s, x.letter(s, 0), BAD_ARG);
-        Check.due("length " + s, x.length(s), BAD_ARG);
-        Check.due("endings " + s, x.endings(s), BAD_ARG);
-        Check.due("beginnings " + s, x.beginnings(s), BAD_ARG);
-        Check.due("letters " + s, x.letters(s), BAD_ARG);
-        Check.due("shortWords " + s, x.shortWords(s), BAD_ARG);
-        Check.due("order " + s, x.order(s), BAD_ARG);
-        Check.due("unchanged by slot " + s, Slots.all(x), "0121/" + FULL_WORD + "/");
-    }
-
-    private static void twoSlotsOneWrong(int s, int r) {
-        CoxeterWords x = Slots.of("0121", FULL_WORD, "");
-        String name = " " + s + " " + r;
-        Check.due("equal" + name, x.equal(s, r), false);
-        Check.due("lies" + name, x.lies(s, r), false);
-        Check.due("between" + name, x.between(s, r), BAD_ARG);
-        Check.due("alike" + name, x.alike(s, r), false);
-        Check.due("unchanged by slots" + name, Slots.all(x), "0121/" + FULL_WORD + "/");
     }
 
     private static void objectsAreApart() {
